@@ -86,7 +86,7 @@ public final class QuotaCarousel {
     }
 
     public int at(int place) {
-        return now.has(place) ? now.inOrder[place] : refuse(NONE);
+        return answered(now.unitAt(place));
     }
 
     public int swap(int p, int q) {
@@ -703,9 +703,9 @@ public final class QuotaCarousel {
         int orderNumber = 0;
         final int[] stratumOf = new int[MOST_UNITS];
         final int[] markOf = new int[MOST_UNITS];
-        final int[] hand = new int[MOST_UNITS];
+        private final int[] hand = new int[MOST_UNITS];
         /** The units as they stand in order: every change that may move them arranges it anew. */
-        final int[] inOrder = new int[MOST_UNITS];
+        private final int[] inOrder = new int[MOST_UNITS];
         private final int[] aboves = new int[ROWS * MOST_UNITS];
         private final int[] belows = new int[ROWS * MOST_UNITS];
 
@@ -722,11 +722,22 @@ public final class QuotaCarousel {
         }
 
         int above(int unit, int row) {
-            return has(unit) && isRow(row) ? aboves[row * MOST_UNITS + unit] : 0;
+            boolean stands = unit >= 0 && unit < units && row >= 0 && row < ROWS;
+            return stands ? aboves[row * MOST_UNITS + unit] : 0;
         }
 
         int below(int unit, int row) {
-            return has(unit) && isRow(row) ? belows[row * MOST_UNITS + unit] : 1;
+            boolean stands = unit >= 0 && unit < units && row >= 0 && row < ROWS;
+            return stands ? belows[row * MOST_UNITS + unit] : 1;
+        }
+
+        int unitAt(int place) {
+            return place >= 0 && place < units ? inOrder[place] : NONE;
+        }
+
+        int stratumAt(int place) {
+            int unit = unitAt(place);
+            return has(unit) ? stratumOf[unit] : NONE;
         }
 
         long marksTogether() {
@@ -952,8 +963,8 @@ public final class QuotaCarousel {
             }
             long next = 0;
             for (int place = 0; place < roster.units && common > 0; place++) {
-                int unit = roster.inOrder[place];
-                if (isIn(who, unit)) {
+                int unit = roster.unitAt(place);
+                if (roster.has(unit) && isIn(who, unit)) {
                     from[unit] = next;
                     length[unit] = roster.partsOf(unit, row, common);
                     next = (next + length[unit]) % common;
@@ -1071,14 +1082,14 @@ public final class QuotaCarousel {
     /** Who comes for those of the chosen that are refusing. */
     private static final class Replacement {
         int inTheEnd = 0;
+        /** Of each refusing unit that is chosen the one that comes, or NONE; of others of no use. */
         final int[] instead = new int[MOST_UNITS];
 
         void settle(Roster roster, int chosen, int manner) {
             int came = 0;
             for (int place = 0; place < roster.units; place++) {
-                int unit = roster.inOrder[place];
-                instead[unit] = NONE;
-                if (isIn(chosen, unit) && roster.isRefusing(unit)) {
+                int unit = roster.unitAt(place);
+                if (roster.isRefusing(unit) && isIn(chosen, unit)) {
                     int found = firstBehind(roster, place, chosen | roster.refusing | came, manner);
                     instead[unit] = found;
                     came |= found >= 0 ? 1 << found : 0;
@@ -1088,10 +1099,11 @@ public final class QuotaCarousel {
         }
 
         private static int firstBehind(Roster roster, int place, int barred, int manner) {
-            int stratum = roster.stratumOf[roster.inOrder[place]];
+            int stratum = roster.stratumAt(place);
             for (int step = 1; step < roster.units; step++) {
-                int found = roster.inOrder[(place + step) % roster.units];
-                if (!isIn(barred, found) && (manner == 0 || roster.stratumOf[found] == stratum)) {
+                int there = (place + step) % roster.units;
+                int found = roster.unitAt(there);
+                if (!isIn(barred, found) && (manner == 0 || roster.stratumAt(there) == stratum)) {
                     return found;
                 }
             }
@@ -1173,15 +1185,15 @@ public final class QuotaCarousel {
             switch (sign) {
                 case 'D': return readNumber(1, 1);
                 case 'N': return readNumber(2, 1);
-                case 'M':
-                    boolean negative = byteAt(reached) == '-';
-                    reached += negative ? 1 : 0;
-                    return readNumber(2, negative ? -1 : 1);
-                default:
-                    boolean same = byteAt(reached) == sign;
-                    reached += same ? 1 : 0;
-                    return same;
+                case 'M': return readNumber(2, readsByte('-') ? -1 : 1);
+                default: return readsByte(sign);
             }
+        }
+
+        private boolean readsByte(int due) {
+            boolean same = byteAt(reached) == due;
+            reached += same ? 1 : 0;
+            return same;
         }
 
         private boolean readNumber(int mostDigits, int factor) {
