@@ -666,7 +666,7 @@ public final class QuotaCarousel {
         int from = 0;
         for (; done < MOST_BYTES && from < tape.length; done++) {
             tape.readClause(from);
-            int answer = doClause(tape.kind, tape.numbers);
+            int answer = doClause();
             if (answer < 0) {
                 now.copyOf(before);
                 latest.note(CLAUSES - from, 1, answer, answer);
@@ -682,11 +682,9 @@ public final class QuotaCarousel {
         return done;
     }
 
-    private int doClause(int kind, int[] numbers) {
-        if (numbers.length < Tape.MOST_NUMBERS) {
-            return BAD;
-        }
-        switch (kind) {
+    private int doClause() {
+        int[] numbers = tape.numbers;
+        switch (tape.kind) {
             case 'u': return now.admit(numbers[0], numbers[1], numbers[2], numbers[3]);
             case 's': return now.changeOdds(numbers[0], SECOND, numbers[1], numbers[2]);
             case 'n': return now.changeOdds(numbers[0], NEXT, numbers[1], numbers[2]);
@@ -995,15 +993,18 @@ public final class QuotaCarousel {
             return meeting(from[one], length[one], from[two], length[two], places);
         }
 
-        /** The next place behind one at which an arc begins or has ended; the size, if there is none. */
-        long nextEdge(long place) {
-            long edge = places;
+        /**
+         * The next place behind one at which an arc has ended; the size, if there is none.
+         * There others are chosen: arcs begin at place 0 or where the one ahead ends, and where a
+         * full arc ends, but at place 0, one ends that isn't full.
+         */
+        long nextEnd(long place) {
+            long next = places;
             for (int unit = 0; unit < MOST_UNITS && places > 0; unit++) {
                 long end = (from[unit] + length[unit]) % places;
-                edge = from[unit] > place ? Math.min(edge, from[unit]) : edge;
-                edge = end > place ? Math.min(edge, end) : edge;
+                next = end > place ? Math.min(next, end) : next;
             }
-            return edge;
+            return next;
         }
     }
 
@@ -1017,19 +1018,13 @@ public final class QuotaCarousel {
         void trace(Wheel wheel) {
             number = 0;
             long place = 0;
-            // A wheel of n units has at most n edges beside place 0.
-            for (int i = 0; i < MOST_RUNS && place < wheel.places; i++) {
-                int chosen = wheel.chosenBy(place);
-                long next = wheel.nextEdge(place);
-                if (number > 0 && who[number - 1] == chosen) {
-                    starts[number - 1] += next - place;
-                } else {
-                    firstStart[number] = place;
-                    starts[number] = next - place;
-                    who[number] = chosen;
-                    number++;
-                }
-                place = next;
+            // A wheel has no more ends than units, and from place 0 on a run between two of them.
+            for (; number < MOST_RUNS && place < wheel.places; number++) {
+                long end = wheel.nextEnd(place);
+                firstStart[number] = place;
+                starts[number] = end - place;
+                who[number] = wheel.chosenBy(place);
+                place = end;
             }
         }
     }
@@ -1113,7 +1108,7 @@ public final class QuotaCarousel {
 
     /** The bytes fed so far, and the clause read last from them. */
     private static final class Tape {
-        static final int MOST_NUMBERS = 4;
+        private static final int MOST_NUMBERS = 4;
         int length = 0;
         int kind = 0;
         /** Where reading stopped: behind a clause, or at the byte with which none goes on. */

@@ -2,9 +2,10 @@ import java.lang.reflect.InvocationTargetException;
 import java.lang.reflect.Method;
 import java.util.Arrays;
 
-/** Every call with every mixture of far and near arguments, in many states: none may throw, and wrong numbers are refused. */
+/** Every call with mixtures of far and near arguments, in many states: none may throw. */
 public final class HostileTest {
-    private static final long[] ARGS = {Integer.MIN_VALUE, -1, 0, 1, 2, 3, 5, 11, 12, 15, 59, 60, 120, 127, Integer.MAX_VALUE};
+    private static final long[] ARGS = {Integer.MIN_VALUE, -1, 0, 1, 2, 3, 5, 11, 12, 15, 59, 60, 120, 127,
+        Integer.MAX_VALUE};
     private static final int MOST_MIXTURES = 60000;
     private static int wrong = 0;
     private static long asked = 0;

@@ -57,10 +57,12 @@ public final class ModelTest {
     private final QuotaCarousel real = new QuotaCarousel();
     private final Model model = new Model();
     private final StringBuilder told = new StringBuilder();
+    private final int number;
     private final int[] belows;
     private long seed;
 
     private ModelTest(int number) {
+        this.number = number;
         seed = number * 7919L + 17;
         belows = BELOWS[number % BELOWS.length];
     }
@@ -112,7 +114,8 @@ public final class ModelTest {
 
     private int markValue() {
         if (belows[0] == 59 && draw(4) != 0) {
-            return 99 - draw(9);
+            // Great marks make sums leave the longs, small ones of both signs the numbers below the line.
+            return number % 2 == 0 ? 99 - draw(9) : draw(3) - 1;
         }
         return draw(30) == 0 ? near(2) * 100 : draw(199) - 99;
     }

@@ -1,6 +1,6 @@
 import java.math.BigInteger;
 
-/** For each promise what was reckoned by hand: ordinary calls, the edges, wrong arguments, and the order of refusals. */
+/** For each promise what was reckoned by hand: ordinary calls, edges, wrong arguments, the order of refusals. */
 public final class PromisesTest {
     private static final int NONE = -1, BAD = -2, STATE = -3, FULL = -4, NOT = -5, OVER = -7;
     private static final int NOTHING = -11, PLACE = -13, BELOW = -14;
@@ -81,7 +81,7 @@ public final class PromisesTest {
         return x;
     }
 
-    /** COMMON is 60 * 59 * 57 .. : too large for the wheel, by ROW 0. */
+    /** COMMON is 59 * 53 * 47 * 43 * 41 * 37, too large for ROW 0. */
     private static QuotaCarousel over() {
         QuotaCarousel x = fresh();
         for (int below : new int[] {59, 53, 47, 43, 41, 37}) {
@@ -342,6 +342,7 @@ public final class PromisesTest {
         due("judge", x.judge(0, 0), OVER);
         due("judge: NOTHING ahead of OVER", x.judge(1, 0), NOTHING);
         overByAll();
+        allAtTheEdge();
         overByOtherRows();
     }
 
@@ -363,6 +364,28 @@ public final class PromisesTest {
         due("COMMON is 8 times 259106347", x.common(0), 2072850776);
         x.odds(5, 0, 1, 9);
         due("COMMON is 9 times it", x.common(0), OVER);
+    }
+
+    /** By COMMON 309663683: ALL is 2147483647 to the one, which isn't over, and one more, which is. */
+    private static void allAtTheEdge() {
+        int[] edge = {39, 39, 14, 27, 30, 1, 1, 1, 1}, beyond = {43, 33, 10, 37, 25, 1, 1, 1, 1};
+        for (int row = 0; row < 3; row++) {
+            due("ALL 2147483647, row " + row, nine(row, edge).common(row), 309663683);
+            due("ALL 2147483648, row " + row, nine(row, beyond).common(row), OVER);
+        }
+        due("ALL of FIRST 2147483647, row 2", nine(0, edge).common(2), 309663683);
+        due("ALL of FIRST 2147483648, row 2", nine(0, beyond).common(2), OVER);
+    }
+
+    private static QuotaCarousel nine(int row, int[] aboves) {
+        int[] belows = {59, 53, 47, 43, 49, 1, 1, 1, 1};
+        QuotaCarousel x = fresh();
+        for (int i = 0; i < 9; i++) {
+            x.unit(row == 0 ? aboves[i] : 1, row == 0 ? belows[i] : 59, 0, 0);
+            x.odds(i, 1, row == 1 ? aboves[i] : 0, belows[i]);
+            x.odds(i, 2, row == 2 ? aboves[i] : 0, belows[i]);
+        }
+        return x;
     }
 
     private static void overByOtherRows() {
@@ -672,7 +695,7 @@ public final class PromisesTest {
         refused("manner 2", x.finals(0, 2, 2), NONE);
         refused("part 2", x.finals(0, 0, 2), BAD);
         promise = 27;
-        // By hand 3 2 1 0: start 0 chooses 3 and 1; 1 isn't chosen by 3's arc's end.
+        // Start 1 chooses 0 and 1, which both refuse, and leaves 2.
         QuotaCarousel y = fresh();
         y.unit(1, 1, 0, 0);
         y.unit(1, 1, 0, 0);
