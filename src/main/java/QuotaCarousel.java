@@ -24,7 +24,7 @@ public final class QuotaCarousel {
 
     private final Roster now = new Roster(), picture = new Roster(), before = new Roster();
     private boolean pictured = false;
-    private final Wheel wheel = new Wheel(), other = new Wheel();
+    private final Wheel wheel = new Wheel(), second = new Wheel();
     private final Runs runs = new Runs();
     private final Ratio total = new Ratio(), term = new Ratio(), piece = new Ratio();
     private final Replacement replacement = new Replacement();
@@ -228,8 +228,8 @@ public final class QuotaCarousel {
         if (!wheel.hasPlace(start) || again < 0 || again >= places) {
             return refuse(BAD);
         }
-        other.lay(now, SECOND, places, wheel.chosenBy(start));
-        return other.chosenBy(again);
+        second.lay(now, SECOND, places, wheel.chosenBy(start));
+        return second.chosenBy(again);
     }
 
     public long both(int one, int other, int part) {
@@ -541,7 +541,7 @@ public final class QuotaCarousel {
             return false;
         }
         wheel.lay(now, FIRST, places, now.everyone());
-        other.lay(now, NEXT, places, now.everyone());
+        second.lay(now, NEXT, places, now.everyone());
         return true;
     }
 
@@ -603,8 +603,8 @@ public final class QuotaCarousel {
         runs.trace(wheel);
         long pairs = 0;
         for (int k = 0; k < runs.number; k++) {
-            other.lay(now, SECOND, places, runs.who[k]);
-            pairs += runs.starts[k] * other.together(one, two);
+            second.lay(now, SECOND, places, runs.who[k]);
+            pairs += runs.starts[k] * second.together(one, two);
         }
         return pairs;
     }
@@ -614,8 +614,8 @@ public final class QuotaCarousel {
         if (places < 1) {
             return 0;
         }
-        long from = (other.from[unit] + shift) % places;
-        return meeting(wheel.from[unit], wheel.length[unit], from, other.length[unit], places);
+        long from = (second.from[unit] + shift) % places;
+        return meeting(wheel.from[unit], wheel.length[unit], from, second.length[unit], places);
     }
 
     private long allKeptBy(long shift) {
@@ -638,7 +638,7 @@ public final class QuotaCarousel {
         for (int i = 0; i < 4 * now.units && places > 0; i++) {
             int unit = i / 4;
             long here = wheel.from[unit] + (i % 2 == 0 ? 0 : wheel.length[unit]);
-            long there = other.from[unit] + (i % 4 < 2 ? 0 : other.length[unit]);
+            long there = second.from[unit] + (i % 4 < 2 ? 0 : second.length[unit]);
             long shift = Math.floorMod(here - there, places);
             long value = sign * allKeptBy(shift);
             if (value > most || value == most && shift < found) {
