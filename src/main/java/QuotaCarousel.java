@@ -770,7 +770,6 @@ public final class QuotaCarousel {
             stratumOf[unit] = stratum;
             markOf[unit] = mark;
             hand[unit] = unit;
-            refusing &= ~(1 << unit);
             arrange();
             return unit;
         }

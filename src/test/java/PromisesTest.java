@@ -446,7 +446,7 @@ public final class PromisesTest {
         due("run(-2, 0)", x.run(-2, 0), NONE);
         due("run(-1, 3)", x.run(-1, 3), NONE);
         due("run(9, -1)", x.run(9, -1), NONE);
-        // The last run chooses the same as the first, and isn't joined with it.
+        // Unit 2 goes round from the last place to the first; the last run isn't joined with the first.
         QuotaCarousel y = fresh();
         y.unit(1, 2, 0, 0);
         y.unit(1, 4, 0, 0);
