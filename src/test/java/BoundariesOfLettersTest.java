@@ -468,6 +468,19 @@ public final class BoundariesOfLettersTest extends Boundaries {
         due("common", x.common(0), 1);
         due("room for twelve", tell(x, "u1/1,0,0" + ";u1/1,0,0".repeat(11)), 12);
         due("none again", x.undo(), 0);
+        says(39, "UNITS that are gone leave nothing on THE WHEEL");
+        x = oneByEach(2, 6);
+        x.image();
+        x.unit(1, 6, 0, 5);
+        x.unit(1, 3, 0, 5);
+        due("runs of four", x.run(-1, 0), 5);
+        x.undo();
+        due("runs of two", x.run(-1, 0), 3);
+        due("nobody", x.run(2, 2), 0);
+        due("nobody", x.run(2, 1), 2);
+        due("mean", x.mean(0), 0);
+        due("overlap", x.overlap(5, 0), 2);
+        due("unit 2", x.joints(2, 0), LONGS - NONE);
         says(39, "THE IMAGE stays, as often as all is as it was");
         QuotaCarousel y = busy();
         for (int i = 0; i < 3; i++) {

@@ -233,14 +233,15 @@ public final class BoundariesOfTwiceTest extends Boundaries {
         due("OVER of SECOND is none of it", overBySecond().shift(1) < 0 ? 0 : 1, 1);
     }
 
-    /** All wheels of two units and six places. */
+    /** All wheels of two units and six places, and a third unit that comes with them. */
     private static void shiftsOfAll() {
         says(26, "the SHIFT with the greatest OVERLAP, with the least, of several the least");
         for (int i = 0; i < 6 * 6 * 7 * 7; i++) {
             int one = 1 + i % 6, two = 1 + i / 6 % 6, oneNext = i / 36 % 7, twoNext = i / 252;
-            QuotaCarousel x = by(new int[] {one, 6}, new int[] {two, 6});
+            QuotaCarousel x = by(new int[] {one, 6}, new int[] {two, 6}, new int[] {1 + i % 4, 6});
             x.odds(0, 2, oneNext, 6);
             x.odds(1, 2, twoNext, 6);
+            x.odds(2, 2, i % 7, 6);
             int best = 0, worst = 0;
             for (int shift = 1; shift < 6; shift++) {
                 best = sixths(x, shift) > sixths(x, best) ? shift : best;
