@@ -320,7 +320,7 @@ public final class ModelTest {
         check(NAMES[call] + args, realCall.answer(), want);
     }
 
-    private static final class Refusal extends RuntimeException {
+    static final class Refusal extends RuntimeException {
         private static final long serialVersionUID = 1;
         final int answer;
         final int[] behind;
@@ -357,7 +357,7 @@ public final class ModelTest {
         }
     }
 
-    private static final class Fraction {
+    static final class Fraction {
         static final Fraction ZERO = new Fraction(BigInteger.ZERO, BigInteger.ONE);
         final BigInteger above, below;
 
